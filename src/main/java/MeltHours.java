@@ -138,7 +138,7 @@ public final class MeltHours {
   }
 
   public int water(int place, int hour, int what) {
-    if (!isPlace(place) || !isUnder(hour, HOURS) || !isUnder(what, 5)) {
+    if (!now.isPlace(place) || !isUnder(hour, HOURS) || !isUnder(what, 5)) {
       return NONE;
     }
     flow.settle();
@@ -154,7 +154,7 @@ public final class MeltHours {
       case 0: return sum(flow.melts);
       case 1: return flow.inAllPlaces(flow.taken);
       case 2: return flow.inAllPlaces(flow.flood);
-      default: return sum(flow.by[now.placeCount - 1]);
+      default: return flow.inPlace(flow.by, now.placeCount - 1);
     }
   }
 
@@ -180,7 +180,7 @@ public final class MeltHours {
   }
 
   public int wants(int want, int what) {
-    if (!isUnder(want, now.wantCount) || !isUnder(what, WANT_PARTS + 1)) {
+    if (!now.isWant(want) || !isUnder(what, WANT_PARTS + 1)) {
       return NONE;
     }
     if (what < WANT_PARTS) {
@@ -195,7 +195,7 @@ public final class MeltHours {
   }
 
   public int best(int place, int what) {
-    if (!isPlace(place) || !isUnder(what, 3)) {
+    if (!now.isPlace(place) || !isUnder(what, 3)) {
       return NONE;
     }
     flow.settle();
@@ -230,7 +230,7 @@ public final class MeltHours {
   }
 
   public int part(int place, int hour, int c, int what) {
-    if (!isPlace(place) || !isUnder(hour, HOURS) || !isUnder(what, 2)) {
+    if (!now.isPlace(place) || !isUnder(hour, HOURS) || !isUnder(what, 2)) {
       return NONE;
     }
     if (c < 1 || c > 99) {
@@ -339,7 +339,7 @@ public final class MeltHours {
 
   public int judge(int tape, int i, int place) {
     Tape row = tapeAt(tape);
-    if (row == null || !isPlace(place)) {
+    if (row == null || !now.isPlace(place)) {
       return NONE;
     }
     if (row.sort != EMPTY && row.sort != SHORTS) {
@@ -483,10 +483,6 @@ public final class MeltHours {
     return i >= 0 && i < bound;
   }
 
-  private boolean isPlace(int place) {
-    return isUnder(place, now.placeCount);
-  }
-
   private Tape tapeAt(int tape) {
     return isUnder(tape, tapes.length) ? tapes[tape] : null;
   }
@@ -570,6 +566,14 @@ public final class MeltHours {
       copy(other.toldMelts, toldMelts);
       toldHours = other.toldHours;
       valley = other.valley;
+    }
+
+    boolean isPlace(int place) {
+      return isUnder(place, PLACES) && place < placeCount;
+    }
+
+    boolean isWant(int want) {
+      return isUnder(want, MOST_WANTS) && want < wantCount;
     }
 
     /** What MELTS in an HOUR if its day has this SKY. */
@@ -709,13 +713,12 @@ public final class MeltHours {
         expect(')');
         return where;
       }
-      return test();
-    }
-
-    private boolean[] test() {
       int letter = oneOf('h', 'd', 'k');
       int sign = oneOf('<', '=', '>');
-      int n = number();
+      return whereHolds(letter, sign, number());
+    }
+
+    private static boolean[] whereHolds(int letter, int sign, int n) {
       boolean[] where = new boolean[SITUATIONS];
       for (int s = 0; s < SITUATIONS; s++) {
         int value = letter == 'h' ? s % DAY : letter == 'd' ? s / DAY / SKIES : s / DAY % SKIES;
@@ -724,14 +727,19 @@ public final class MeltHours {
       return where;
     }
 
+    /** 1 or 2 digits. */
     private int number() {
-      int n = figure(9);
-      int second = next() - '0';
-      if (!isUnder(second, 10)) {
-        return n;
+      int n = 0;
+      int digits = 0;
+      while (digits < 2 && isUnder(next() - '0', TEN)) {
+        n = TEN * n + next() - '0';
+        at++;
+        digits++;
       }
-      at++;
-      return 10 * n + second;
+      if (digits == 0) {
+        sound = false;
+      }
+      return n;
     }
 
     private int figure(int highest) {
@@ -812,7 +820,7 @@ public final class MeltHours {
 
     /** Lets all flow again from a PLACE on, where nothing changed above it, and answers WORTH. */
     int again(int from) {
-      for (int p = Math.max(from, 0); p < state.placeCount && p < PLACES; p++) {
+      for (int p = from; p < PLACES && state.isPlace(p); p++) {
         come(p, p == 0 ? melts : by[p - 1]);
         pass(p);
       }
@@ -883,12 +891,12 @@ public final class MeltHours {
 
     private int serve() {
       int worth = 0;
-      for (int w = 0; w < state.wantCount && w < served.length; w++) {
+      for (int w = 0; w < MOST_WANTS && state.isWant(w); w++) {
         int[] want = state.wants[w];
-        served[w] = 0;
-        if (want[WANT_PLACE] < state.placeCount) {
-          served[w] = Math.min(want[CUPS], taken[want[WANT_PLACE]][want[WANT_HOUR]] - servedBefore(w));
-        }
+        int place = want[WANT_PLACE];
+        int hour = want[WANT_HOUR];
+        boolean isThere = state.isPlace(place) && isUnder(hour, HOURS);
+        served[w] = isThere ? Math.min(want[CUPS], taken[place][hour] - servedBefore(w)) : 0;
         worth += served[w] * want[EACH];
       }
       return worth;
@@ -909,9 +917,9 @@ public final class MeltHours {
     /** The WORTH that no gate of this PLACE could surpass: all WANTS from it on served in full. */
     int utmost(int place) {
       int worth = 0;
-      for (int w = 0; w < state.wantCount && w < served.length; w++) {
+      for (int w = 0; w < MOST_WANTS && state.isWant(w); w++) {
         int[] want = state.wants[w];
-        boolean isReached = want[WANT_PLACE] >= place && want[WANT_PLACE] < state.placeCount;
+        boolean isReached = want[WANT_PLACE] >= place && state.isPlace(want[WANT_PLACE]);
         worth += (isReached ? want[CUPS] : served[w]) * want[EACH];
       }
       return worth;
@@ -929,10 +937,14 @@ public final class MeltHours {
 
     int inAllPlaces(int[][] rows) {
       int all = 0;
-      for (int p = 0; p < state.placeCount && p < rows.length; p++) {
-        all += sum(rows[p]);
+      for (int p = 0; p < PLACES; p++) {
+        all += inPlace(rows, p);
       }
       return all;
+    }
+
+    int inPlace(int[][] rows, int place) {
+      return state.isPlace(place) ? sum(rows[place]) : 0;
     }
   }
 
