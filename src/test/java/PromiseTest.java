@@ -233,6 +233,8 @@ public final class PromiseTest {
     MeltHours z = with("melt 1 !h=1&h<3");
     due("! binds before &", z.melts(5), 0);
     due("! binds before &", z.melts(0), 1);
+    MeltHours first = with("melt 1 h=0|h=9;melt 2 h=9|h=0;melt 4 h=0&h<9;melt 8 h=0&h>0");
+    due("the first HOUR of all", first.melts(0), 7);
     MeltHours all = with(times("melt 9 h>5;", 8) + "melt 9 h>5");
     due("all melt together", all.melts(6), 81);
   }
@@ -271,6 +273,10 @@ public final class PromiseTest {
     due("LAG 20", x.water(2, 32, 0), 23);
     due("none held", x.water(2, 32, 3), 0);
     due("never before", x.water(2, 31, 0), 0);
+    MeltHours skies = with("melt 3 k=0;melt 5 k=1;lag 0 0");
+    skies.sky(1, 1);
+    due("under the SKY of day 0", skies.water(0, 23, 0), 3);
+    due("under the SKY of day 1", skies.water(0, 24, 0), 5);
     MeltHours late = oneHour(47, 9, ";lag 0 1");
     for (int h = 0; h < 48; h++) due("gone behind HOUR 47", late.water(0, h, 0), 0);
     for (int i : new int[] {-1, 3, 4, LEAST, GREATEST}) due("water", x.water(i, 0, 0), NONE);
@@ -307,6 +313,9 @@ public final class PromiseTest {
     turn.gate(1, 5, 3, 0);
     turn.places(4);
     due("TURN, 4 modulo 4", turn.water(1, 4, 1), 0);
+    turn.places(1);
+    turn.gate(0, 5, 3, 0);
+    due("TURN, alone", turn.water(0, 4, 1), 6);
     MeltHours pond = with("melt 20 h=5|h=6;lag 0 0;pond 0 30");
     pond.gate(0, 3, 2, 1 << 7);
     due("held at 5", pond.water(0, 5, 3), 20);
@@ -403,6 +412,20 @@ public final class PromiseTest {
     due("wrapping round midnight, WORTH", night.best(0, 2), 20);
     due("none better: the fewest HOURS, b", night.best(2, 1), 0);
     due("none better: the least a", night.best(2, 0), 0);
+    night.want(0, 23, 1, 9);
+    due("the night, worth more", night.best(0, 2), 20);
+    MeltHours dear = with("melt 20 h=3|h=5;lag 0 0");
+    dear.gate(0, 1, 4, 0);
+    dear.want(0, 3, 8, 9);
+    dear.want(0, 29, 2, 8);
+    due("two HOURS that are dear, a", dear.best(0, 0), 3);
+    due("two HOURS that are dear, b", dear.best(0, 1), 3);
+    due("two HOURS that are dear, WORTH", dear.best(0, 2), 88);
+    MeltHours all = with("melt 5 h<24;lag 0 0");
+    all.gate(0, 1, 1, 0);
+    for (int h = 0; h < 10; h++) all.want(0, h * 5 / 2, 5, 1);
+    due("ten HOURS in one span, with a gap from 2 to 5, a", all.best(0, 0), 5);
+    due("ten HOURS in one span, with a gap from 2 to 5, b", all.best(0, 1), 22);
     for (int i : new int[] {-1, 3, 4, LEAST, GREATEST}) due("best", x.best(i, 0), NONE);
     for (int i : new int[] {-1, 3, LEAST, GREATEST}) due("best", x.best(0, i), NONE);
   }
@@ -412,7 +435,6 @@ public final class PromiseTest {
     due("price(5)", x.price(5), 3);
     due("price(6)", x.price(6), 0);
     due("nothing changed", x.melts(5), 12);
-    // The SAVER's half and the KEEPER's 'beyond' can turn a cup more into WORTH less.
     MeltHours y = oneHour(5, 10, ";lag 0 0;lag 1 0");
     y.gate(0, 4, 2, 0);
     y.gate(1, 2, 1, 0);
@@ -433,6 +455,7 @@ public final class PromiseTest {
     MeltHours x = with("melt 50 h>0;lag 0 2;leak 0 10;lag 1 0;most 1 20;lag 2 20;leak 2 50");
     x.gate(0, 2, 10, 0);
     due("at PLACE 0", x.part(0, 3, 49, 0), 45);
+    due("99 at PLACE 0", x.part(0, 3, 99, 0), 90);
     due("HOUR at PLACE 0", x.part(0, 3, 49, 1), 5);
     due("at PLACE 1", x.part(1, 3, 49, 0), 20);
     due("HOUR at PLACE 1", x.part(1, 3, 49, 1), 5);
@@ -467,6 +490,7 @@ public final class PromiseTest {
     due("odds", x.odds(GREATEST, GREATEST), BAD);
     due("odds", x.odds(LEAST, LEAST), BAD);
     due("nothing changed", x.mean(0, 0), 4);
+    due("odds", x.odds(10, 0), 1);
     due("odds", x.odds(0, 0), 1);
     due("always frost", x.mean(0, 0), 10);
   }
@@ -482,6 +506,18 @@ public final class PromiseTest {
     due("SAFE: nine of ten twice", x.mean(1, 0), 81);
     due("SAFE below", x.mean(1, 1), 100);
     due("the SKIES stay", x.sky(0, 0), 0);
+    x.odds(8, 1);
+    due("SAFE, not in lowest terms yet", x.mean(1, 0), 81);
+    x.odds(6, 2);
+    due("SAFE: 64 of a hundred", x.mean(1, 0), 16);
+    due("SAFE: 64 of a hundred, below", x.mean(1, 1), 25);
+    MeltHours half = with("most 0 0;melt 1 k=0&d=0|k=1&d=1;lag 0 0");
+    half.odds(3, 2);
+    due("SAFE: 7 of ten and 8 of ten, 56", half.mean(1, 0), 14);
+    half.odds(3, 4);
+    due("SAFE: 7 of ten and 6 of ten, 42", half.mean(1, 0), 21);
+    due("SAFE: below", half.mean(1, 1), 50);
+    x.odds(7, 1);
     for (int i : new int[] {-1, 2, LEAST, GREATEST}) due("mean", x.mean(i, 0), MeltHours.NO);
     for (int i : new int[] {-1, 2, LEAST, GREATEST}) due("mean", x.mean(0, i), MeltHours.NO);
     for (int h = 0; h < 4; h++) x.day(2);
@@ -547,6 +583,15 @@ public final class PromiseTest {
     y.gate(1, 2, 10, 0);
     due("set of the least bits", y.spare(), 2);
     due("nothing changed", y.of(1, 0), 2);
+    MeltHours z = oneHour(5, 20, ";lag 0 0;lag 1 0");
+    z.places(2);
+    z.gate(0, 2, 10, 0);
+    z.gate(1, 2, 10, 0);
+    z.want(0, 5, 10, 1);
+    z.want(1, 29, 10, 1);
+    due("PLACE 1 gives nothing", z.spare(), 2);
+    z.want(1, 5, 10, 1);
+    due("either, but not both: the least bits", z.spare(), 1);
   }
 
   private static void day() {
@@ -565,6 +610,8 @@ public final class PromiseTest {
     due("melts(24)", x.melts(24), 0);
     due("none then", x.day(-1), 0);
     due("melts(1)", x.melts(1), 7);
+    due("the first again", x.day(5), 1);
+    due("melts(0)", x.melts(0), 5);
   }
 
   private static void judge() {
@@ -574,6 +621,8 @@ public final class PromiseTest {
     x.item(0, 5, 9);
     due("alike to the end", x.judge(0, 2, 0), 48);
     due("the first HOUR with other cups", x.judge(0, 1, 0), 3);
+    due("from the row's first place on", x.judge(0, 0, 0), 3);
+    due("other cups at once", x.judge(0, 5, 0), 0);
     due("the first HOUR with other cups", x.judge(0, 3, 0), 2);
     due("one HOUR short", x.judge(0, 3, 1), 2);
     x.tape(1, 1, 51);
@@ -751,6 +800,7 @@ public final class PromiseTest {
     due("read", x.read(0, 0), MeltHours.NO);
     for (int i : new int[] {LEAST, -1, 0, 61, GREATEST}) due("nothing", x.tape(0, -1, i), 1);
     due("item", x.item(0, 0, 0), NOTHING);
+    due("read", x.read(0, 0), MeltHours.NO);
   }
 
   private static void items() {
