@@ -379,11 +379,7 @@ public final class MeltHours {
       return 0;
     }
     acts.standAt(place, now.gates[place]);
-    switch (act) {
-      case LETS: return acts.lets(acts.kind, x);
-      case TAKES: return acts.takes(acts.kind, x);
-      default: return acts.tells(acts.kind, x);
-    }
+    return acts.done(act, x);
   }
 
   public int trace(int i) {
@@ -955,7 +951,7 @@ public final class MeltHours {
   private static final class Acts {
     private int place;
     private int might;
-    int kind;
+    private int kind;
     final int[] bodies = new int[20];
     int ran;
 
@@ -965,7 +961,15 @@ public final class MeltHours {
       might = gate[MIGHT];
     }
 
-    int lets(int from, int x) {
+    int done(int act, int x) {
+      switch (act) {
+        case LETS: return lets(kind, x);
+        case TAKES: return takes(kind, x);
+        default: return tells(kind, x);
+      }
+    }
+
+    private int lets(int from, int x) {
       switch (from) {
         case SHARE:
         case TURN:
@@ -983,7 +987,7 @@ public final class MeltHours {
       }
     }
 
-    int takes(int from, int x) {
+    private int takes(int from, int x) {
       switch (from) {
         case CLOCK:
           began(20);
@@ -1000,7 +1004,7 @@ public final class MeltHours {
       }
     }
 
-    int tells(int from, int x) {
+    private int tells(int from, int x) {
       switch (from) {
         case POND:
         case SAVER:

@@ -7,7 +7,12 @@ import java.nio.file.Path;
 import java.util.ArrayList;
 import java.util.Arrays;
 import java.util.List;
+import java.util.Map;
+import java.util.Set;
+import java.util.TreeMap;
 import java.util.TreeSet;
+import java.util.regex.Matcher;
+import java.util.regex.Pattern;
 
 /** The public face is the document's and no more, and the source keeps to what of LANGUAGE.md can be seen so. */
 public final class FaceTest {
@@ -73,7 +78,10 @@ public final class FaceTest {
     for (Class<?> inside : c.getDeclaredClasses()) {
       int is = inside.getModifiers();
       demand(Modifier.isStatic(is) && !Modifier.isPublic(is) && !Modifier.isProtected(is), "static, not seen: " + inside);
-      for (Method m : inside.getDeclaredMethods()) demand(m.getParameterCount() <= 7, "seven parameters: " + m);
+      for (Method m : inside.getDeclaredMethods()) {
+        demand(m.getParameterCount() <= 7, "seven parameters: " + m);
+        demand(!Modifier.isPrivate(m.getModifiers()) || !names.contains(m.getName()), "named unlike a public one: " + m);
+      }
     }
   }
 
@@ -81,8 +89,7 @@ public final class FaceTest {
     String all = Files.readString(Path.of("src/main/java/MeltHours.java"));
     String code = all.replaceAll("(?s)/\\*.*?\\*/", "").replaceAll("//.*", "");
     for (String barred : BARRED) {
-      java.util.regex.Matcher m = java.util.regex.Pattern.compile(barred).matcher(code);
-      demand(!m.find(), "free of " + barred);
+      demand(!Pattern.compile(barred).matcher(code).find(), "free of " + barred);
     }
     List<String> imports = new ArrayList<>();
     int methodStart = -1;
@@ -99,6 +106,47 @@ public final class FaceTest {
     demand(imports.equals(List.of("import java.util.Arrays;")), "no import but Arrays: " + imports);
   }
 
+  /** Rule 8: what calls itself, or is called again by what it calls, is private. */
+  private static void recursion() throws IOException {
+    Map<String, Set<String>> calls = new TreeMap<>();
+    Set<String> hidden = new TreeSet<>();
+    String inside = "";
+    String method = "";
+    for (String line : Files.readAllLines(Path.of("src/main/java/MeltHours.java"))) {
+      Matcher type = Pattern.compile(" {2}\\w.* class (\\w+) \\{").matcher(line);
+      Matcher header = Pattern.compile(" {2,4}(private )?(?:public )?(?:static )?[\\w\\[\\]]+ (\\w+)\\(.*\\) \\{").matcher(line);
+      if (type.matches()) {
+        inside = type.group(1) + ".";
+      } else if (line.equals("  }") && !inside.isEmpty()) {
+        inside = "";
+      } else if (header.matches() && indent(line) == (inside.isEmpty() ? 2 : 4)) {
+        method = inside + header.group(2);
+        calls.put(method, new TreeSet<>());
+        if (header.group(1) != null) hidden.add(method);
+      } else if (!method.isEmpty()) {
+        Matcher call = Pattern.compile("(?<![.\\w])(\\w+)\\(").matcher(line);
+        while (call.find()) calls.get(method).add(inside + call.group(1));
+      }
+    }
+    int again = 0;
+    for (String name : calls.keySet()) {
+      if (reached(calls, name).contains(name)) {
+        again++;
+        demand(hidden.contains(name), "private, since it is called again by what it calls: " + name);
+      }
+    }
+    demand(again >= 3, "an E within an E is met among " + calls.size() + " methods");
+  }
+
+  private static Set<String> reached(Map<String, Set<String>> calls, String from) {
+    Set<String> reached = new TreeSet<>();
+    List<String> ahead = new ArrayList<>(List.of(from));
+    while (!ahead.isEmpty()) {
+      for (String next : calls.getOrDefault(ahead.remove(0), Set.of())) if (reached.add(next)) ahead.add(next);
+    }
+    return reached;
+  }
+
   private static int indent(String line) {
     return line.length() - line.stripLeading().length();
   }
@@ -106,6 +154,7 @@ public final class FaceTest {
   public static void main(String[] args) throws IOException {
     face();
     source();
+    recursion();
     System.out.println(wrong == 0 ? "the face and the language are as due" : wrong + " are not as due");
     if (wrong != 0) System.exit(1);
   }
